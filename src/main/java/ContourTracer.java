@@ -1612,7 +1612,7 @@ public final class ContourTracer {
 
     /** A TAPE; items of all sorts lie in longs, each cut to its sort when it is put. */
     private static final class Tape {
-        static final int EMPTY = -1, BYTES = 0, SHORTS = 1, INTS = 2, LONGS = 3, BOOLEANS = 4;
+        static final int EMPTY = -1, BYTES = 0, SHORTS = 1, INTS = 2, BOOLEANS = 4;
         static final int MOST = 60;
 
         final long[] items;
@@ -1662,6 +1662,7 @@ public final class ContourTracer {
                     items[i] = v != 0 ? 1 : 0;
                     break;
                 default:
+                    // A row of longs takes all of v.
                     items[i] = v;
                     break;
             }

@@ -265,6 +265,8 @@ public final class PromiseTest {
         due("read() of 100 bytes that end too early", read(x, full.append("poin").toString()), -110);
         full.setLength(96);
         due("read() of 100 bytes", read(x, full.append("turn").toString()), 9);
+        full.setLength(72);
+        due("read() of 100 bytes, ; the last", read(x, full.append("hill 00 10 10;rule 1;rule 1;").toString()), -110);
     }
 
     private static void promise07() {
@@ -294,6 +296,9 @@ public final class PromiseTest {
         due("told(5) odd", x.told(5), 5);
         x.height(12, 0);
         due("told(5) flat", x.told(5), 99);
+        x.height(12, 1);
+        due("told(5): none above LEVEL 0", x.told(5), 0);
+        x.height(12, 0);
         due("told(4) flat", x.told(4), 0);
         // Three single POINTS of 20, 30, 30: LEVELS 1 .. 20 have three LINES.
         x = made("size 5 5;point 0 20;point 12 30;point 24 30");
