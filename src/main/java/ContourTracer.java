@@ -764,7 +764,7 @@ public final class ContourTracer {
         static final int MOST_PLACES = (MOST_SIDE + 2) * (MOST_SIDE + 2);
         static final int MOST_POINTS = MOST_SIDE * MOST_SIDE;
         static final int BEYOND = -1;
-        static final int MEAN_KIND = 2, CROSS_KIND = 4;
+        static final int NONE_KIND = 1, MEAN_KIND = 2, CHECKED_KIND = 3, CROSS_KIND = 4;
 
         final int[] heights;
         int high;
@@ -945,11 +945,11 @@ public final class ContourTracer {
             int lowerRight = heights[corner + stride + 1] - level;
             int lowerLeft = heights[corner + stride] - level;
             switch (kind) {
-                case 1:
+                case NONE_KIND:
                     return false;
                 case MEAN_KIND:
                     return upperLeft + upperRight + lowerRight + lowerLeft >= 0;
-                case 3:
+                case CHECKED_KIND:
                     return (corner / stride + corner % stride) % 2 == 0;
                 case CROSS_KIND:
                     int falling = upperLeft * lowerRight;
