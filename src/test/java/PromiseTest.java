@@ -242,8 +242,6 @@ public final class PromiseTest {
 
     private static void promise06Faults() {
         promise = 6;
-        ContourTracer x = new ContourTracer();
-        x.height(0, 7);
         String[] texts = {"", "x", "siz", "size", "size ", "size 4", "size 4 ", "size  4 4", "size 4 4 ", "size 4 4 4",
             "size 123 4", "size 4 123", "point 1", "point 1;", "fill 0 1", "hill 0 1 2 3", "rule", "rule 1 1", "turn ",
             "turn 1", "turns", "turn;", "turn; turn", "turn;;turn", ";turn", " turn", "Turn", "turn;size 2 2;point 0 9;?",
@@ -253,11 +251,14 @@ public final class PromiseTest {
         int[] faults = {0, 0, 3, 4, 5, 6, 7, 5, 8, 8, 7, 9, 7, 7, 8, 10, 4, 6, 4, 4, 4, 5, 5, 5, 0, 0, 0, 24, 5, 6, 1, 2, 4,
             59, 59};
         for (int i = 0; i < texts.length; i++) {
-            due("read() of '" + texts[i] + "'", read(x, texts[i]), -10 - faults[i]);
-            due("count(3)", x.count(3), 0);
+            ContourTracer y = new ContourTracer();
+            y.height(0, 7);
+            due("read() of '" + texts[i] + "'", read(y, texts[i]), -10 - faults[i]);
+            due("count(3)", y.count(3), 0);
+            due("of(0): nothing was done", y.of(0), 7);
+            due("told(0): nothing was done", y.told(0), 6);
         }
-        due("of(0): nothing was done", x.of(0), 7);
-        due("told(0): nothing was done", x.told(0), 6);
+        ContourTracer x = new ContourTracer();
         StringBuilder full = new StringBuilder();
         for (int i = 0; i < 8; i++) {
             full.append("point 00 10;");
