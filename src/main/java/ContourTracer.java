@@ -365,13 +365,14 @@ public final class ContourTracer {
 
     /**
      * All PLACES that are IN along a LINE are of one LAND: in each SQUARE they hang together by
-     * EDGES or over the SADDLE, or it is the same PLACE. So the least EDGE tells whose HOLE it is.
+     * EDGES or over the SADDLE, or it is the same PLACE. So the least EDGE tells whose HOLE it is; its
+     * upper PLACE is IN, as an odd number of LINES HOLDS it.
      */
     private int holesOf(int level, int land) {
         lines.trace(level);
         int holes = 0;
         for (int line = 0; line < lines.found; line++) {
-            if (!lines.isOuter(line) && lands.landAt[lines.innerPlace(line)] == land) {
+            if (!lines.isOuter(line) && lands.landAt[lines.leastPlace(line)] == land) {
                 holes++;
             }
         }
@@ -1146,14 +1147,9 @@ public final class ContourTracer {
             return edges[begins[line]];
         }
 
-        /** The PLACE of the least EDGE that is IN. */
-        int innerPlace(int line) {
-            int edge = leastEdge(line);
-            int place = edge / 2;
-            if (isIn(place)) {
-                return place;
-            }
-            return edge % 2 == 0 ? place + 1 : place + ground.stride;
+        /** The left (upper) PLACE of the least EDGE. */
+        int leastPlace(int line) {
+            return leastEdge(line) / 2;
         }
 
         /** All LINES that HOLD a PLACE, a bit each: there are fewer of them than a long has bits. */
@@ -1175,7 +1171,7 @@ public final class ContourTracer {
 
         /** All other LINES that HOLD a LINE, a bit each. */
         long holdersOfLine(int line) {
-            return holdersOf(leastEdge(line) / 2) & ~(1L << line);
+            return holdersOf(leastPlace(line)) & ~(1L << line);
         }
 
         int depthOf(int line) {

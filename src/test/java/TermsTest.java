@@ -100,6 +100,28 @@ public final class TermsTest extends Sentences {
         due("at(0, 3): none of them is a POINT that is IN", x.at(0, 3), 4);
     }
 
+    @Says(in = "Terms", words = "all that are no POINTS have HEIGHT -1.")
+    static void placesBeyondStayOutWhateverIsDone() {
+        String round = "lddrruul";
+        ContourTracer x = made("size 2 2;hill 3 99 0");
+        alike("a hill", walked(x, 99, 0), round);
+        x = made("size 2 2;turn");
+        alike("turned", walked(x, 99, 0), round);
+        x = made("size 2 2;turn;turn");
+        alike("turned twice", walked(x, 0, 0), round);
+        x = made("size 2 2;fill 0 3 99");
+        alike("filled", walked(x, 99, 0), round);
+        x = made("size 7 7;fill 0 48 99;size 2 2;fill 0 3 99");
+        alike("what was a POINT is beyond", walked(x, 99, 0), round);
+        x.image();
+        x.size(7, 7);
+        x.undo();
+        alike("undone", walked(x, 99, 0), round);
+        x.event(2, 99);
+        x.event(4, 0);
+        due("behind EVENTS", x.after(99, 0), 1);
+    }
+
     @Says(in = "Terms", words = "(WIDE plus 2) times (its row plus 1), plus its column plus 1.")
     static void numbersOfTheFirstAndTheLastPlaces() {
         // The last POINT has NUMBER 4 * 7 + 2 = 30, the PLACE above it 26.
@@ -429,8 +451,11 @@ public final class TermsTest extends Sentences {
     static void areaTakesTheLastEdgeWithTheFirst() {
         // X, Y: 2 -1, 1 0, 0 1, -1 2, 0 3, 1 2, 2 1, 3 0: 1 + 1 + 1 - 3 - 3 - 3 - 3, and -3 behind the last.
         due("two POINTS over a SADDLE", ofCase(10).line(50, 0, 5), 12);
-        due("one POINT", ofCase(4).line(50, 0, 5), 4);
-        due("all four", ofCase(15).line(50, 0, 5), 8 * 4 - 4);
+        // As many eighths as squares have, one less for each corner that is cut, one more for each bay.
+        int[] due = {4, 4, 12, 4, 12, 12, 20, 4, 12, 12, 20, 12, 20, 20, 28};
+        for (int code = 1; code < 16; code++) {
+            due("CASE " + code, ofCase(code).line(50, 0, 5), due[code - 1]);
+        }
     }
 
     @Says(in = "Terms", words = "without its sign (8 times what it holds).")
@@ -665,6 +690,8 @@ public final class TermsTest extends Sentences {
         }
         due("100 bytes that end too early", fault(full + "p"), -110);
         due("100 bytes, the last one isn't as told", fault(full + "?"), -109);
+        full.setLength(88);
+        due("100 bytes that end with ;", fault(full + "point 01 10;"), -110);
     }
 
     @Says(in = "Terms", words = "Without it they are done, one behind the other; those that would be refused aren't.")
@@ -774,6 +801,8 @@ public final class TermsTest extends Sentences {
         ContourTracer x = made("size 2 5;point 0 60;point 1 10;point 2 50;point 3 30;point 4 51");
         due("by 50 less 30, not less 10", x.stands(2), 20);
         due("one more is greater", made("size 2 3;point 0 50;point 1 20;point 2 51").stands(0), 30);
+        due("by 50 less 21", made("size 2 3;point 0 50;point 1 21;point 2 51").stands(0), 29);
+        due("by 1", made("size 2 3;point 0 99;point 1 97;point 2 98").stands(2), 1);
         due("as much is not greater", made("size 2 3;point 0 50;point 1 20;point 2 50").stands(0), 50);
         due("a neighbour is greater", x.stands(1), 0);
         due("only 0 is between", made("size 2 3;point 0 99;point 2 98").stands(2), 98);
@@ -1203,6 +1232,16 @@ public final class TermsTest extends Sentences {
         alike("all that is held", held(x), then);
         due("fits(1): SEEN's POINT and whether", x.fits(1), 43);
         due("after(0, 2): the EVENT's what and n", x.after(0, 2), 52);
+        x = new ContourTracer();
+        fillUp(x);
+        x.image();
+        String full = held(x);
+        x.see(-1, 0);
+        x.event(-1, 0);
+        x.book(-1, 0);
+        x.book(0, 9);
+        x.undo();
+        alike("an IMAGE with as much as there may be", held(x), full);
         x = new ContourTracer();
         x.image();
         String empty = held(x);
