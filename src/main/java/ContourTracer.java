@@ -405,16 +405,14 @@ public final class ContourTracer {
             return NONE;
         }
         int own = ground.heightOf(point);
-        if (own == ground.greatest()) {
-            return own;
-        }
         int place = ground.placeOf(point);
         int level = 0;
-        // As in pass(): a greater HEIGHT that is out of reach stays so further up.
+        // As in pass(): a greater HEIGHT that is out of reach stays so further up. If there is none at
+        // all, LEVEL 0 is as good as a PASS.
         for (int step = HALVED_FROM; step > 0; step /= 2) {
             if (level + step <= own) {
                 lands.find(level + step);
-                if (lands.tops[lands.landAt[place]] > own) {
+                if (lands.topAround(place) > own) {
                     level += step;
                 }
             }
@@ -630,9 +628,6 @@ public final class ContourTracer {
         }
         if (row.sort != Tape.BYTES) {
             return CAST;
-        }
-        if (!row.isPlace(i)) {
-            return CUT_SHORT;
         }
         int points = ground.points();
         for (int point = 0; point < points; point++) {
@@ -1378,13 +1373,22 @@ public final class ContourTracer {
             }
         }
 
+        /** TOP of the LAND that has a PLACE, or that PLACE's own HEIGHT, if it is OUT. */
+        int topAround(int place) {
+            int land = landAt[place];
+            return land >= 0 ? tops[land] : ground.heights[place];
+        }
+
         void clearChildren() {
             Arrays.fill(children, 0);
         }
 
         /** A LAND of the next LEVEL, with its least PLACE, lies in the one that has this PLACE. */
         void addChild(int place) {
-            children[landAt[place]]++;
+            int land = landAt[place];
+            if (land >= 0) {
+                children[land]++;
+            }
         }
 
         int leaves() {

@@ -1154,6 +1154,13 @@ public final class TermsTest extends Sentences {
         due("POINT 35 is no more: LANDS", x.after(1, 1), 0);
         due("EVENTS stay", x.count(1), 8);
         x = new ContourTracer();
+        x.size(7, 7);
+        x.event(0, 48);
+        x.event(1, 48);
+        x.size(2, 2);
+        due("POINT 48 is far beyond: LINES", x.after(0, 0), 1);
+        due("POINT 48 is far beyond: VOLUME", x.after(0, 2), 0);
+        x = new ContourTracer();
         x.event(1, 4);
         x.event(0, 3);
         x.size(2, 2);
