@@ -5,8 +5,10 @@ import java.lang.reflect.Method;
 import java.lang.reflect.Modifier;
 import java.nio.file.Files;
 import java.nio.file.Path;
+import java.util.HashMap;
 import java.util.HashSet;
 import java.util.List;
+import java.util.Map;
 import java.util.Set;
 import java.util.TreeSet;
 import java.util.regex.Matcher;
@@ -24,6 +26,9 @@ public final class FaceTest {
         "int event(int,int)", "int after(int,int)", "int book(int,int)", "int looked()", "int judge(int,int)",
         "int image()", "int undo()", "int count(int)", "int tape(int,int,int)", "int item(int,int,long)",
         "long peek(int,int)", "int shift(int,int,int,int,int)"};
+
+    /** The line with which a method or a constructor begins. */
+    private static final Pattern HEAD = Pattern.compile("^( {4}| {8})(?!(?:if|for|while|switch) )(\\w[\\w\\[\\] ]*)\\(.*\\) \\{$");
 
     private static int wrong = 0;
 
@@ -135,18 +140,33 @@ public final class FaceTest {
         while (imported.find()) {
             must(imported.group(1).equals("java.util.Arrays"), "import of " + imported.group(1));
         }
+        library(code);
         methods(code);
+        depths(code);
+    }
+
+    /** What is named with a point behind a class is of the program's own classes, or one of a few things of the library. */
+    private static void library(String code) {
+        Set<String> allowed = Set.of("Arrays.fill", "System.arraycopy", "Math.abs", "Math.max", "Math.min", "Long.bitCount",
+                "Long.MIN_VALUE");
+        Set<String> own = new HashSet<>();
+        for (Class<?> c : ContourTracer.class.getDeclaredClasses()) {
+            own.add(c.getSimpleName());
+        }
+        Matcher named = Pattern.compile("\\b([A-Z]\\w*)\\.(\\w+)").matcher(code);
+        while (named.find()) {
+            must(own.contains(named.group(1)) || allowed.contains(named.group()), "the library has " + named.group());
+        }
     }
 
     /** Methods stay short, and only constructors make something: all calls of a run live in one room. */
     private static void methods(String code) {
-        Pattern head = Pattern.compile("^( {4}| {8})(\\w[\\w\\[\\] ]*)\\(.*\\) \\{$");
         String name = "";
         String indent = "";
         int began = 0;
         String[] lines = code.split("\n");
         for (int i = 0; i < lines.length; i++) {
-            Matcher m = head.matcher(lines[i]);
+            Matcher m = HEAD.matcher(lines[i]);
             if (name.isEmpty() && m.matches()) {
                 name = m.group(2).trim();
                 indent = m.group(1);
@@ -158,5 +178,41 @@ public final class FaceTest {
             boolean constructs = name.matches("(public )?[A-Z]\\w*");
             must(!lines[i].contains(" new ") || constructs, "only a constructor makes something: " + lines[i].trim());
         }
+    }
+
+    /**
+     * No method comes to be called by itself, and calls go at most eight deep. Methods of one name are taken for one,
+     * so chains are never longer than they are seen here.
+     */
+    private static void depths(String code) {
+        Map<String, Set<String>> calls = new HashMap<>();
+        String name = "";
+        for (String line : code.split("\n")) {
+            Matcher m = HEAD.matcher(line);
+            if (m.matches()) {
+                String[] words = m.group(2).trim().split(" ");
+                name = words[words.length - 1];
+                calls.putIfAbsent(name, new TreeSet<>());
+            } else if (!name.isEmpty()) {
+                Matcher called = Pattern.compile("\\b(\\w+)\\(").matcher(line);
+                while (called.find()) {
+                    calls.get(name).add(called.group(1));
+                }
+            }
+        }
+        must(calls.size() > 100, "methods are seen");
+        for (String each : calls.keySet()) {
+            must(depth(each, calls, 1) <= 8, "calls from " + each + " on go at most eight deep");
+        }
+    }
+
+    private static int depth(String name, Map<String, Set<String>> calls, int open) {
+        int depth = open;
+        for (String called : open > 8 ? Set.<String>of() : calls.get(name)) {
+            if (calls.containsKey(called)) {
+                depth = Math.max(depth, depth(called, calls, open + 1));
+            }
+        }
+        return depth;
     }
 }
